@@ -878,7 +878,6 @@ public final class ClassReader {
         private int value;
         private int handlers;
         private int thrown;
-        private final Table exceptions;
 
         /** Of the whole. */
         private int host;
@@ -892,7 +891,6 @@ public final class ClassReader {
         Attributes(Source source, Pool pool) {
             this.source = source;
             this.pool = pool;
-            this.exceptions = new Table(1, LIMIT / 2);
             this.nest = new Table(1, LIMIT / 2);
             this.permitted = new Table(1, LIMIT / 2);
             this.inner = new Table(4, LIMIT / 8);
@@ -933,7 +931,7 @@ public final class ClassReader {
                         loadCode();
                         break;
                     case EXCEPTIONS:
-                        thrown = loadClasses(exceptions);
+                        thrown = skipClasses();
                         break;
                     case INNER_CLASSES:
                         loadInner();
@@ -1026,13 +1024,19 @@ public final class ClassReader {
             }
         }
 
-        private int loadClasses(Table into) {
-            into.clear();
+        private int skipClasses() {
+            int n = source.next(2);
+            for (int i = 0; i < n; i++) {
+                pool.take(CLASS);
+            }
+            return n;
+        }
+
+        private void loadClasses(Table into) {
             int n = source.next(2);
             for (int i = 0; i < n; i++) {
                 into.add(pool.take(CLASS));
             }
-            return n;
         }
 
         private void loadInner() {
@@ -1149,12 +1153,12 @@ public final class ClassReader {
         }
 
         private int loadFieldHead() {
-            int flags = source.next(2);
-            source.demand(areFieldFlags(flags), source.at() - 2);
+            int memberFlags = source.next(2);
+            source.demand(areFieldFlags(memberFlags), source.at() - 2);
             int name = pool.takeText(Grammar.SIMPLE_NAME);
             int nameAt = source.at() - 2;
             int descriptor = pool.takeText(Grammar.FIELD_TYPE);
-            int row = addMember(fields, flags, name, descriptor);
+            int row = addMember(fields, memberFlags, name, descriptor);
             fields.set(row, MEMBER_SLOTS, Grammar.isWide(pool.character(descriptor, 0)) ? 2 : 1);
             source.demand(!isTwice(fields, row), nameAt);
             return row;
@@ -1175,15 +1179,15 @@ public final class ClassReader {
         }
 
         private int loadMethodHead() {
-            int flags = source.next(2);
-            source.demand(areMethodFlags(flags), source.at() - 2);
+            int memberFlags = source.next(2);
+            source.demand(areMethodFlags(memberFlags), source.at() - 2);
             int name = pool.takeText(Grammar.METHOD_NAME);
             int nameAt = source.at() - 2;
             int descriptor = pool.takeText(Grammar.METHOD_TYPE);
             source.demand(areMatched(name, descriptor), source.at() - 2);
-            int row = addMember(methods, flags, name, descriptor);
-            int slots = Grammar.slots(pool.characters, pool.start(descriptor), pool.end(descriptor));
-            methods.set(row, MEMBER_SLOTS, slots);
+            int row = addMember(methods, memberFlags, name, descriptor);
+            int from = pool.start(descriptor);
+            methods.set(row, MEMBER_SLOTS, Grammar.slots(pool.characters, from, pool.end(descriptor)));
             source.demand(!isTwice(methods, row), nameAt);
             return row;
         }
@@ -1245,7 +1249,7 @@ public final class ClassReader {
         }
     }
 
-    /** Tells ENTRIES in words. Nothing is kept of them but their count and the one CHARACTER wanted. */
+    /** Tells ENTRIES in words; kept are only their count and the one CHARACTER that is wanted. */
     private static final class Words {
         private static final int NO_OWNER = 0;
 
@@ -1413,7 +1417,8 @@ public final class ClassReader {
             demandFinite(exponent < 255);
             long fraction = bits & 0x7FFFFF;
             double value = exponent == 0
-                    ? scaled(fraction, -149) : scaled(fraction | 0x800000, exponent - 150);
+                    ? scaled(fraction, -149)
+                    : scaled(fraction | 0x800000, exponent - 150);
             return bits < 0 ? -value : value;
         }
 
@@ -1422,7 +1427,8 @@ public final class ClassReader {
             demandFinite(exponent < 2047);
             long fraction = bits & 0xFFFFFFFFFFFFFL;
             double value = exponent == 0
-                    ? scaled(fraction, -1074) : scaled(fraction | 0x10000000000000L, exponent - 1075);
+                    ? scaled(fraction, -1074)
+                    : scaled(fraction | 0x10000000000000L, exponent - 1075);
             return bits < 0 ? -value : value;
         }
 

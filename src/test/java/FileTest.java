@@ -85,6 +85,7 @@ public final class FileTest {
         Due.is("patch(MIN, 0)", () -> x.patch(Integer.MIN_VALUE, 0), false);
         Due.is("patch behind the last", () -> x.patch(file.length, 0), false);
         Due.is("patch the last", () -> x.patch(file.length - 1, 0), true);
+        Due.is("patch the first", () -> x.patch(0, 0xCA), true);
         Due.is("patch(0, -1)", () -> x.patch(0, -1), false);
         Due.is("patch(0, 256)", () -> x.patch(0, 256), false);
         Due.is("nothing was changed", x::read, 3);

@@ -343,6 +343,12 @@ public final class ReadTest {
                 starting(tag, first);
             }
         }
+        ClassFile first = new ClassFile();
+        first.two(18, 0, 4);
+        first.cls("A");
+        first.two(12, 2, 5);
+        first.text("()V");
+        first.endPlain(3).faultAt("the first ENTRY wants a bootstrap method", 10);
         ClassFile g = new ClassFile();
         int self = g.cls("A");
         g.two(17, 0, g.naming("f", "I"));
