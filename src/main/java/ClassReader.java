@@ -26,8 +26,6 @@ public final class ClassReader {
     private static final int TYPE = 16;
     private static final int DYNAMIC = 17;
     private static final int CALL = 18;
-    /** The TAG of no ENTRY at all, not even of a number that is none. */
-    private static final int NO_TAG = -1;
 
     /** The columns of a table of members, as the call member numbers them. */
     private static final int MEMBER_FLAGS = 0;
@@ -537,10 +535,12 @@ public final class ClassReader {
             for (int i = 1; i < count; i++) {
                 int at = source.at();
                 int tag = source.next(1);
+                boolean isWide = tag == LONG || tag == DOUBLE;
+                // The TAG alone tells it, so this comes before BYTES that are missing behind the TAG.
+                source.demand(!isWide || i + 1 < count, at);
                 loadEntry(entries.add(tag), tag, at);
-                if (tag == LONG || tag == DOUBLE) {
+                if (isWide) {
                     i++;
-                    source.demand(i < count, at);
                     entries.add(0);
                 }
             }
@@ -970,14 +970,13 @@ public final class ClassReader {
             return Known.OTHER;
         }
 
-        /** The TAG of the value of a FIELD with this descriptor. */
+        /** The TAG of the value of a FIELD with this descriptor; for others the value is a FAULT. */
         private int constantTag(int descriptor) {
             if (pool.spells(descriptor, "Ljava/lang/String;")) {
                 return STRING;
             }
-            if (pool.first(descriptor) != 1) {
-                return NO_TAG;
-            }
+            // The descriptor alone tells it, so this comes before a BYTE that is missing.
+            source.demand(pool.first(descriptor) == 1, source.at());
             switch (pool.character(descriptor, 0)) {
                 case 'J':
                     return LONG;

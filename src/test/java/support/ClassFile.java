@@ -15,6 +15,13 @@ final class ClassFile {
         u4(0xCAFEBABE).u2(0).u2(52).u2(0);
     }
 
+    /** A pool with the CLASS A: that is ENTRY 2, and its name is ENTRY 1. */
+    static ClassFile start() {
+        ClassFile f = new ClassFile();
+        f.cls("A");
+        return f;
+    }
+
     int size() {
         return size;
     }

@@ -142,9 +142,9 @@ final class Model {
             } else if (tag == 3 || tag == 4) {
                 first = (int) u(4);
             } else if (tag == 5 || tag == 6) {
+                want(i + 1 != count, at);
                 first = (int) u(4);
                 second = (int) u(4);
-                want(i + 1 != count, at);
             } else if (tag == 7 || tag == 8 || tag == 16) {
                 first = u2();
             } else if (tag >= 9 && tag <= 12 || tag == 17 || tag == 18) {
@@ -353,6 +353,7 @@ final class Model {
                 String d = entries.get(m.descriptor).text;
                 int tag = d.matches("[BCISZ]") ? 3 : d.equals("J") ? 5 : d.equals("F") ? 4 : d.equals("D") ? 6
                         : d.equals("Ljava/lang/String;") ? 8 : -1;
+                want(tag > 0, p);
                 m.value = take(false, tag);
             }
             case "Code" -> code(m);
