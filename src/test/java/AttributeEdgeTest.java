@@ -273,7 +273,8 @@ public final class AttributeEdgeTest {
     // Of a FIELD.
 
     private static void values() {
-        Due.by("ConstantValue: u2, an INT for a descriptor of B C I S Z, a LONG for J, FLOAT for F, DOUBLE for D, STRING for Ljava/lang/String;");
+        Due.by("ConstantValue: u2, an INT for a descriptor of B C I S Z, a LONG for J, FLOAT for F, DOUBLE for "
+                + "D, STRING for Ljava/lang/String;");
         Object[][] all = {{"B", INT}, {"C", INT}, {"I", INT}, {"S", INT}, {"Z", INT}, {"J", LONG}, {"F", FLOAT}, {"D", DOUBLE},
             {"Ljava/lang/String;", STRING}};
         for (Object[] row : all) {

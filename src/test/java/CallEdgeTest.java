@@ -68,6 +68,7 @@ public final class CallEdgeTest {
         numberOfLong();
         numberOfFloat();
         numberOfDouble();
+        powersOfTwo();
         numberOfOthers();
         notFinite();
         numberUnread();
@@ -104,6 +105,7 @@ public final class CallEdgeTest {
 
     private static void member() {
         memberSlots();
+        slotsInBrackets();
         memberValue();
         memberRows();
         memberThrown();
@@ -474,6 +476,19 @@ public final class CallEdgeTest {
         }
     }
 
+    /** Each power of two that is one, so that no exponent is left out. */
+    private static void powersOfTwo() {
+        Due.by("The value of ENTRY i");
+        for (int exponent = -149; exponent <= 127; exponent++) {
+            float value = (float) Math.pow(2, exponent);
+            Due.is("FLOAT " + value, () -> number(4, Float.floatToRawIntBits(value)), (double) value);
+        }
+        for (int exponent = -1074; exponent <= 1023; exponent++) {
+            double value = Math.pow(2, exponent);
+            Due.is("DOUBLE " + value, () -> number(6, Double.doubleToRawLongBits(value)), value);
+        }
+    }
+
     private static void numberOfDouble() {
         Due.by("FLOAT or DOUBLE; -1 for a TEXT");
         for (double value : new double[] {0.0, -0.0, Double.MIN_VALUE, -Double.MIN_VALUE, Double.MIN_NORMAL, 1.0,
@@ -612,7 +627,8 @@ public final class CallEdgeTest {
     }
 
     private static void toldWords() {
-        Due.by("CLASS and the descriptor of others as types: byte, char, double, float, int, long, short, boolean, void");
+        Due.by("CLASS and the descriptor of others as types: byte, char, double, float, int, long, short, "
+                + "boolean, void");
         String[] basic = {"B byte", "C char", "D double", "F float", "I int", "J long", "S short", "Z boolean", "V void"};
         for (String row : basic) {
             ofType("()" + row.charAt(0), row.substring(2) + "()");
@@ -636,7 +652,8 @@ public final class CallEdgeTest {
     }
 
     private static void toldType() {
-        Due.by("TYPE is the type behind ), and the types in the brackets, with a comma and a blank between them, in ( and )");
+        Due.by("TYPE is the type behind ), and the types in the brackets, with a comma and a blank between "
+                + "them, in ( and )");
         ofType("()V", "void()");
         ofType("(I)V", "void(int)");
         ofType("(IJ)V", "void(int, long)");
@@ -645,7 +662,8 @@ public final class CallEdgeTest {
     }
 
     private static void toldNaming() {
-        Due.by("NAMING with a FIELD DESCRIPTOR: the type, a blank, the name; with a METHOD DESCRIPTOR: the type, a blank, the name, and ( types ) as for TYPE");
+        Due.by("NAMING with a FIELD DESCRIPTOR: the type, a blank, the name; with a METHOD DESCRIPTOR: the "
+                + "type, a blank, the name, and ( types ) as for TYPE");
         ofNaming("f", "I", "int f");
         ofNaming("m", "()V", "void m()");
         ofNaming("<init>", "(II)V", "void <init>(int, int)");
@@ -653,10 +671,19 @@ public final class CallEdgeTest {
     }
 
     private static void toldMembers() {
-        Due.by("FIELD, METHOD and FACE: the same as their NAMING, with the type of their CLASS and a . before the name");
+        Due.by("FIELD, METHOD and FACE: the same as their NAMING, with the type of their CLASS and a . before "
+                + "the name");
         ofMember(9, "a/b", "f", "I", "int a.b.f");
         ofMember(10, "[I", "m", "()V", "void int[].m()");
         ofMember(11, "I", "m", "(I)I", "int I.m(int)");
+        ClassFile f = new ClassFile();
+        f.one(7, 2);
+        f.text("A");
+        f.text("I");
+        f.two(12, 2, 3);
+        f.two(9, 1, 4);
+        ClassReader x = f.endPlain(1).read();
+        Due.is("a FIELD of the first ENTRY", () -> words(x, 5), "int A.A");
     }
 
     private static void toldOthers() {
@@ -694,7 +721,8 @@ public final class CallEdgeTest {
     }
 
     private static void toldUnread() {
-        Due.by("NONE for another k, or if there is no such ENTRY. IllegalStateException if nothing is READ (this first).");
+        Due.by("NONE for another k, or if there is no such ENTRY. IllegalStateException if nothing is READ "
+                + "(this first).");
         unread("told(2, 0)", x -> x.told(2, 0));
         unread("told(0, -2)", x -> x.told(0, -2));
     }
@@ -706,7 +734,8 @@ public final class CallEdgeTest {
     }
 
     private static void wholeNumbers() {
-        Due.by("Of the whole what 0: flags, 1: this, 2: super, 3: how many interfaces, 4: FIELDS, 5: METHODS, 6: the major, 7: the minor version");
+        Due.by("Of the whole what 0: flags, 1: this, 2: super, 3: how many interfaces, 4: FIELDS, 5: METHODS, "
+                + "6: the major, 7: the minor version");
         ClassReader least = ClassFile.start().endPool().set2(6, 45).all(0, 2, 0, 0, 0, 0, 0).read();
         int[] low = {0, 2, 0, 0, 0, 0, 45, 0};
         for (int what = 0; what < low.length; what++) {
@@ -803,6 +832,11 @@ public final class CallEdgeTest {
         slots(false, "[J", 1);
         slots(false, "[D", 1);
         slots(false, "LJ;", 1);
+        slots(true, "(I)V", 1);
+    }
+
+    private static void slotsInBrackets() {
+        Due.by("Its SLOTS are the number of those in the brackets, J and D counting twice.");
         slots(true, "()V", 0);
         slots(true, "()J", 0);
         slots(true, "(I)D", 1);
@@ -810,7 +844,10 @@ public final class CallEdgeTest {
         slots(true, "(D)V", 2);
         slots(true, "([J)V", 1);
         slots(true, "(LD;)V", 1);
+        slots(true, "(LJ;LD;)V", 2);
+        slots(true, "(La)J;)V", 1);
         slots(true, "(JID)V", 5);
+        slots(true, "(" + "J".repeat(300) + ")V", 600);
     }
 
     private static void slots(boolean method, String descriptor, int want) {
@@ -946,7 +983,8 @@ public final class CallEdgeTest {
     }
 
     private static void linkedOnce() {
-        Due.by("what 0: the CLASS of NestHost, 1: of EnclosingMethod, 2: the NAMING of that (NONE without these ATTRIBUTES; k is not looked at)");
+        Due.by("what 0: the CLASS of NestHost, 1: of EnclosingMethod, 2: the NAMING of that (NONE without these "
+                + "ATTRIBUTES; k is not looked at)");
         ClassReader with = linked(1, true).read();
         ClassReader without = plain().read();
         for (int k : new int[] {0, -1, -2, 1, 99, LEAST, MOST}) {
@@ -974,7 +1012,9 @@ public final class CallEdgeTest {
     }
 
     private static void linkedLists() {
-        Due.by("3: CLASS k (0 the first) of NestMembers, 4: of PermittedSubclasses; 5 to 8: of row k of InnerClasses the CLASS, the outer one, the name, the flags; 9: the HANDLE of bootstrap method k, 10: how many further ENTRIES it names");
+        Due.by("3: CLASS k (0 the first) of NestMembers, 4: of PermittedSubclasses; 5 to 8: of row k of "
+                + "InnerClasses the CLASS, the outer one, the name, the flags; 9: the HANDLE of bootstrap method "
+                + "k, 10: how many further ENTRIES it names");
         ClassReader x = linked(2, false).read();
         int[] want = {2, 2, 2, 2, 3, 65535, 7, 1};
         for (int what = 3; what <= 10; what++) {

@@ -23,6 +23,7 @@ public final class ReadEdgeTest {
 
     private static void file() {
         fullFile();
+        highestFirst();
         missingBytes();
         missingOfEach();
         firstFault();
@@ -84,6 +85,7 @@ public final class ReadEdgeTest {
     private static void ends() {
         noByteLeft();
         bootstrapNumbers();
+        firstStarts();
     }
 
     private static void promises() {
@@ -91,6 +93,7 @@ public final class ReadEdgeTest {
         versionComesFirst();
         nothingRead();
         latestReading();
+        nothingOfEarlier();
         offsetOfFault();
         noFault();
     }
@@ -120,6 +123,22 @@ public final class ReadEdgeTest {
         ClassFile g = ClassFile.start();
         g.text("x".repeat(pad - 1));
         g.endPlain(2).u1(255).faultAt("a FAULT at the last of 500", 499);
+    }
+
+    private static void highestFirst() {
+        Due.by("u1, u2, u4 are numbers of 1, 2, 4 BYTES, the highest one first");
+        ClassFile f = ClassFile.start();
+        f.four(3, 0x80000001);
+        f.four(3, 0xFFFFFFFF);
+        ClassReader x = f.endPool().all(0xFDEF, 2, 0, 0, 0, 0, 0).read();
+        Due.is("a u2", () -> x.whole(0), 0xFDEF);
+        Due.is("a u4", () -> x.entry(3, 1), 0x80000001);
+        Due.is("the highest u4, as an int", () -> x.entry(4, 1), -1);
+        ClassFile g = ClassFile.start().set2(8, 4).u1(1).u2(0x0100);
+        for (int i = 0; i < 255; i++) {
+            g.u1(65);
+        }
+        g.faultAt("a TEXT of 256 BYTES, one of which is missing", g.size());
     }
 
     private static void missingBytes() {
@@ -316,7 +335,8 @@ public final class ReadEdgeTest {
     }
 
     private static void lastWide() {
-        Due.by("5 LONG, 6 DOUBLE: u4 u4, they take the next number, too, which is no ENTRY then (FAULT at the TAG if that is c)");
+        Due.by("5 LONG, 6 DOUBLE: u4 u4, they take the next number, too, which is no ENTRY then (FAULT at the "
+                + "TAG if that is c)");
         for (int tag = 5; tag <= 6; tag++) {
             for (int there = 0; there <= 8; there++) {
                 ClassFile only = new ClassFile().set2(8, 2).u1(tag);
@@ -639,7 +659,8 @@ public final class ReadEdgeTest {
     }
 
     private static void namings() {
-        Due.by("NAMING a TEXT that is a SIMPLE NAME or METHOD NAME, and a TEXT that is a FIELD DESCRIPTOR or METHOD DESCRIPTOR");
+        Due.by("NAMING a TEXT that is a SIMPLE NAME or METHOD NAME, and a TEXT that is a FIELD DESCRIPTOR or "
+                + "METHOD DESCRIPTOR");
         for (int i = 1; i <= NEXT; i++) {
             two(12, i, 2, i == 1 || i == 2 || i == METHOD_TYPE);
             two(12, 1, i, i == 2 || i == METHOD_TYPE);
@@ -694,7 +715,8 @@ public final class ReadEdgeTest {
     }
 
     private static void handles() {
-        Due.by("HANDLE a kind 1 to 9, and for 1 to 4 a FIELD, for 5 and 8 a METHOD, for 6 and 7 a METHOD or FACE, for 9 a FACE");
+        Due.by("HANDLE a kind 1 to 9, and for 1 to 4 a FIELD, for 5 and 8 a METHOD, for 6 and 7 a METHOD or "
+                + "FACE, for 9 a FACE");
         for (int kind : new int[] {0, 1, 2, 3, 4, 5, 6, 7, 8, 9, 10, 11, 255}) {
             for (int named = 1; named <= NEXT; named++) {
                 boolean onField = named == FIELD && kind >= 1 && kind <= 4;
@@ -809,6 +831,12 @@ public final class ReadEdgeTest {
         }
         fieldTyped("[".repeat(300) + "I", true);
         fieldTyped("[".repeat(300), false);
+        ClassFile f = new ClassFile();
+        f.text("");
+        f.cls("A");
+        f.endPool().all(0, 3, 0, 0, 1, 0, 2);
+        int at = f.size();
+        f.all(1, 0, 0, 0).faultAt("FIELD of no CHARACTER, which is the first ENTRY", at);
     }
 
     /** As the name of this class, which must be a PATH. */
@@ -913,6 +941,18 @@ public final class ReadEdgeTest {
         return f;
     }
 
+    private static void firstStarts() {
+        Due.by("9. The ENTRIES, by numbers");
+        for (int tag = 17; tag <= 18; tag++) {
+            ClassFile f = new ClassFile();
+            f.two(tag, 0, 4);
+            f.cls("A");
+            f.two(12, 2, 5);
+            f.text(tag == 17 ? "I" : "()V");
+            f.endPlain(3).faultAt("TAG " + tag + " as the first ENTRY", 10);
+        }
+    }
+
     private static void endStarted(ClassFile f, int methods) {
         f.endPool().all(0, 2, 0, 0, 0, 0, 1).attribute(8, 2 + 4 * methods).u2(methods);
         for (int i = 0; i < methods; i++) {
@@ -935,7 +975,8 @@ public final class ReadEdgeTest {
     }
 
     private static void versionComesFirst() {
-        Due.by("IllegalArgumentException with a FAULT, UnsupportedOperationException if the version is UNKNOWN (it comes first, being the first FAULT)");
+        Due.by("IllegalArgumentException with a FAULT, UnsupportedOperationException if the version is UNKNOWN "
+                + "(it comes first, being the first FAULT)");
         Due.is("a FAULT", () -> plain().set2(8, 0).load().read(), FAULT);
         Due.is("an UNKNOWN version", () -> plain().set2(6, 70).load().read(), UNKNOWN);
         Due.is("both", () -> plain().set2(6, 70).set2(8, 0).load().read(), UNKNOWN);
@@ -970,6 +1011,70 @@ public final class ReadEdgeTest {
         Due.is("bytes", () -> x.bytes(0, 8), 8);
         Due.is("this", () -> x.whole(1), 2);
         Due.is("where()", x::where, -2);
+    }
+
+    /** An object that has read another FILE before answers as a new one does. */
+    private static void nothingOfEarlier() {
+        Due.by("What is told later is of the latest READING");
+        ClassFile[] files = {rich(true), plain(), rich(false), byTags().endPlain(CLASS)};
+        for (ClassFile before : files) {
+            for (ClassFile f : files) {
+                ClassReader x = before.read();
+                x.cut(0);
+                f.loadInto(x);
+                Due.is("read()", x::read, f.next());
+                Due.is("all that is told", () -> answers(x), answers(f.read()));
+            }
+        }
+    }
+
+    /** A FILE of many things; with a NestHost or NestMembers. */
+    private static ClassFile rich(boolean host) {
+        ClassFile f = ClassFile.start();
+        f.text("I");
+        f.four(3, 7);
+        f.text("()V");
+        f.handle(5, f.two(10, 2, f.two(12, 1, 5)));
+        f.text("ConstantValue");
+        f.text("Code");
+        f.text("Exceptions");
+        f.text(host ? "NestHost" : "NestMembers");
+        f.text("EnclosingMethod");
+        f.text("PermittedSubclasses");
+        f.text("InnerClasses");
+        f.text("BootstrapMethods");
+        f.endPool().all(1024, 2, 2, 2, 2, 2).all(1, 1, 1, 3, 1).attribute(9, 2).u2(4);
+        f.all(1, 1, 1, 5, 2).attribute(10, 21).all(0, 0).u4(1).u1(0).all(1, 0, 1, 0, 0, 0).attribute(11, 4).all(1, 2);
+        f.u2(5).attribute(12, host ? 2 : 4);
+        if (!host) {
+            f.u2(1);
+        }
+        f.u2(2).attribute(13, 4).all(2, 6).attribute(14, 4).all(1, 2);
+        return f.attribute(15, 10).all(1, 2, 2, 1, 9).attribute(16, 8).all(1, 8, 1, 4);
+    }
+
+    private static String answers(ClassReader x) {
+        StringBuilder s = new StringBuilder();
+        for (int what = 0; what <= 22; what++) {
+            s.append(x.whole(what)).append(' ');
+        }
+        for (int i = 0; i < 20; i++) {
+            for (int what = 0; what <= 3; what++) {
+                s.append(x.entry(i, what)).append(' ');
+            }
+            s.append(x.number(i)).append(' ').append(x.text(i, -1)).append(' ').append(x.told(i, -1)).append(' ');
+        }
+        for (int what = 0; what <= 7; what++) {
+            for (int k = 0; k <= 1; k++) {
+                s.append(x.member(false, k, what)).append(' ').append(x.member(true, k, what)).append(' ');
+            }
+        }
+        for (int what = 0; what <= 10; what++) {
+            for (int k = -1; k <= 1; k++) {
+                s.append(x.linkage(what, k)).append(' ');
+            }
+        }
+        return s.toString();
     }
 
     private static void offsetOfFault() {

@@ -158,6 +158,16 @@ final class ClassFile {
 
     static ClassReader load(byte[] file) {
         ClassReader reader = new ClassReader();
+        append(reader, file);
+        return reader;
+    }
+
+    /** Puts this file behind what the reader has. */
+    void loadInto(ClassReader reader) {
+        append(reader, bytes());
+    }
+
+    private static void append(ClassReader reader, byte[] file) {
         for (int at = 0; at < file.length; at += 8) {
             int n = Math.min(8, file.length - at);
             long w = 0;
@@ -166,7 +176,6 @@ final class ClassFile {
             }
             reader.bytes(w, n);
         }
-        return reader;
     }
 
     /** A reader that has read this file, which must be without a fault. */
