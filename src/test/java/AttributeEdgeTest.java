@@ -587,6 +587,17 @@ public final class AttributeEdgeTest {
         f.all(256, SECOND, VOID, 1).attribute(FIRST, 2).u2(0);
         endMethod(f).isGood("Exceptions of two METHODS");
         end(whole(3, "x", "y").attribute(FIRST, 0).attribute(FIRST, 0).attribute(SECOND, 0)).isGood("another name twice");
+        for (String name : OF_WHOLE) {
+            ClassFile g = with(base(name, "y").all(0, 0, name.equals("BootstrapMethods") ? 3 : 4).attribute(SECOND, 0), FIRST, name);
+            g.attribute(SECOND, 0);
+            (name.equals("BootstrapMethods") ? g : end(g)).isGood("another name before and behind " + name);
+        }
+        endField(field("ConstantValue", "I").u2(3).attribute(SECOND, 0).attribute(FIRST, 2).u2(INT).attribute(SECOND, 0))
+                .isGood("another name before and behind ConstantValue");
+        endMethod(method(256, "Exceptions", "y").u2(3).attribute(SECOND, 0).attribute(FIRST, 2).u2(0).attribute(SECOND, 0))
+                .isGood("another name before and behind Exceptions");
+        endMethod(method(0, "Code", "y").u2(3).attribute(SECOND, 0).attribute(FIRST, 13).all(0, 0).u4(1).u1(0).all(0, 0)
+                .attribute(SECOND, 0)).isGood("another name before and behind Code");
     }
 
     private static void nestBoth() {
