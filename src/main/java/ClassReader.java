@@ -26,6 +26,8 @@ public final class ClassReader {
     private static final int TYPE = 16;
     private static final int DYNAMIC = 17;
     private static final int CALL = 18;
+    /** The TAG of no ENTRY at all, not even of a number that is none. */
+    private static final int NO_TAG = -1;
 
     /** The columns of a table of members, as the call member numbers them. */
     private static final int MEMBER_FLAGS = 0;
@@ -970,13 +972,14 @@ public final class ClassReader {
             return Known.OTHER;
         }
 
-        /** The TAG of the value of a FIELD with this descriptor; for others the value is a FAULT. */
+        /** The TAG of the value of a FIELD with this descriptor; NO_TAG if it may have no value. */
         private int constantTag(int descriptor) {
             if (pool.spells(descriptor, "Ljava/lang/String;")) {
                 return STRING;
             }
-            // The descriptor alone tells it, so this comes before a BYTE that is missing.
-            source.demand(pool.first(descriptor) == 1, source.at());
+            if (pool.first(descriptor) != 1) {
+                return NO_TAG;
+            }
             switch (pool.character(descriptor, 0)) {
                 case 'J':
                     return LONG;

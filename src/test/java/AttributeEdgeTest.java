@@ -25,6 +25,8 @@ public final class AttributeEdgeTest {
         DOUBLE + 1, STRING, TYPE, DYNAMIC, CALL, FIRST, COUNT, COUNT + 1, 65535};
     private static final String[] OF_WHOLE = {"InnerClasses", "EnclosingMethod", "NestHost", "NestMembers",
         "PermittedSubclasses", "BootstrapMethods"};
+    private static final String[] OTHER_DESCRIPTORS = {"[I", "[J", "[Z", "LA;", "LI;", "Ljava/lang/Object;",
+        "Ljava/lang/Strin;", "Ljava/lang/String/a;", "[Ljava/lang/String;", "Ljava/lang/string;"};
 
     public static void main(String[] args) {
         heads();
@@ -42,12 +44,14 @@ public final class AttributeEdgeTest {
         lengths();
         justTheirLength();
         readOn();
+        halfNumbers();
         allowed();
     }
 
     private static void constantValues() {
         values();
         otherDescriptors();
+        otherDescriptorBytes();
     }
 
     private static void codes() {
@@ -255,6 +259,51 @@ public final class AttributeEdgeTest {
         end(j.all(1, PLAIN)).faultAt("a CLASS behind its length", at);
     }
 
+    /**
+     * A wrong u2 is the FAULT where both its BYTES are there; with one of them or none it is behind the
+     * last. The lengths are 0, so that the BYTES are not missing there already.
+     */
+    private static void halfNumbers() {
+        Due.by("where BYTES are wanted that are not there, it is at the OFFSET behind the last one");
+        half("the name of an ATTRIBUTE", whole(1, "x", "y"));
+        half("the name of a FIELD's", field("x", "I").u2(1));
+        half("the name of a METHOD's", method(0, "x", "y").u2(1));
+        half("ConstantValue", field("ConstantValue", "I").u2(1).attribute(FIRST, 0));
+        half("ConstantValue of [I", field("ConstantValue", "[I").u2(1).attribute(FIRST, 0));
+        half("the CLASS of Exceptions", method(0, "Exceptions", "y").u2(1).attribute(FIRST, 0).u2(1));
+        half("catch", oneRow().all(0, 1, 0));
+        half("the name of a Code's", oneRow().all(0, 1, 0, 0, 1));
+        half("the CLASS of InnerClasses", whole("InnerClasses").u2(1));
+        half("the outer CLASS", whole("InnerClasses").all(1, PLAIN));
+        half("the TEXT of InnerClasses", whole("InnerClasses").all(1, PLAIN, 0));
+        half("the CLASS of EnclosingMethod", whole("EnclosingMethod"));
+        half("the NAMING of EnclosingMethod", whole("EnclosingMethod").u2(PLAIN));
+        half("the CLASS of NestHost", whole("NestHost"));
+        half("the CLASS of NestMembers", whole("NestMembers").u2(1));
+        half("the CLASS of PermittedSubclasses", whole("PermittedSubclasses").u2(1));
+        half("the HANDLE", whole("BootstrapMethods").u2(1));
+        half("a further ENTRY", whole("BootstrapMethods").all(1, HANDLE, 1));
+    }
+
+    /** What stands before the u2 is sound; no u2 may be 65535 there, nor begin so. */
+    private static void half(String what, ClassFile before) {
+        int at = before.size();
+        before.faultAt(what + ", no BYTE", at);
+        before.u1(255).faultAt(what + ", one BYTE", at + 1);
+        before.u1(255).faultAt(what + ", both BYTES", at);
+        before.u2(0).faultAt(what + ", and more", at);
+    }
+
+    /** Behind this comes what is in the ATTRIBUTE of the whole with this name. */
+    private static ClassFile whole(String name) {
+        return whole(1, name, "y").attribute(FIRST, 0);
+    }
+
+    /** Behind this comes the only row of a Code of one BYTE. */
+    private static ClassFile oneRow() {
+        return code().attribute(FIRST, 0).all(0, 0).u4(1).u1(0).u2(1);
+    }
+
     private static void allowed() {
         Due.by("By their name, where they are allowed, these are KNOWN");
         for (String name : new String[] {"ConstantValue", "Code", "Exceptions", "Other", "nestHost", "NestHost ", "NestHos"}) {
@@ -295,23 +344,33 @@ public final class AttributeEdgeTest {
 
     private static void otherDescriptors() {
         Due.by("for others it is a FAULT");
-        for (String type : new String[] {"[I", "[J", "[Z", "LI;", "Ljava/lang/Object;", "Ljava/lang/Strin;", "Ljava/lang/String/a;",
-            "[Ljava/lang/String;", "Ljava/lang/string;"}) {
+        for (String type : OTHER_DESCRIPTORS) {
             for (int x : NUMBERS) {
                 ClassFile f = field("ConstantValue", type).u2(1).attribute(FIRST, 2);
                 int at = f.size();
                 endField(f.u2(x)).faultAt(type + " and " + x, at);
             }
-            for (int there = 0; there < 2; there++) {
-                ClassFile f = field("ConstantValue", type).u2(1).attribute(FIRST, there);
-                int at = f.size();
-                for (int i = 0; i < there; i++) {
-                    f.u1(0);
-                }
-                f.faultAt(type + " and " + there + " of 2 BYTES", at);
-            }
         }
         endField(field("ConstantValue", "[I").u2(0)).isGood("without the ATTRIBUTE");
+    }
+
+    /** The u2 is a FAULT whatever it is, but only where it is there: both BYTES, one, none. */
+    private static void otherDescriptorBytes() {
+        Due.by("where BYTES are wanted that are not there, it is at the OFFSET behind the last one");
+        for (String type : OTHER_DESCRIPTORS) {
+            for (int length = 0; length <= 2; length++) {
+                for (int b : new int[] {0, INT, 255}) {
+                    String what = type + ", length " + length + ", BYTE " + b;
+                    ClassFile both = field("ConstantValue", type).u2(1).attribute(FIRST, length);
+                    int at = both.size();
+                    both.u1(b).u1(b).faultAt(what + ": both BYTES", at);
+                    ClassFile one = field("ConstantValue", type).u2(1).attribute(FIRST, length);
+                    one.u1(b).faultAt(what + ": one BYTE", at + 1);
+                    ClassFile none = field("ConstantValue", type).u2(1).attribute(FIRST, length);
+                    none.faultAt(what + ": no BYTE", at);
+                }
+            }
+        }
     }
 
     // Of a METHOD.

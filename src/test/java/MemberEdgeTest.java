@@ -30,6 +30,7 @@ public final class MemberEdgeTest {
         head();
         fields();
         methods();
+        halfNumbers();
         Due.end();
     }
 
@@ -370,5 +371,29 @@ public final class MemberEdgeTest {
             f.u1(0);
         }
         return f.all(0, 0, 0);
+    }
+
+    /** A wrong u2 is the FAULT where both its BYTES are there; with one of them or none it is behind the last. */
+    private static void halfNumbers() {
+        Due.by("where BYTES are wanted that are not there, it is at the OFFSET behind the last one");
+        half("flags", base());
+        half("this", base().u2(0));
+        half("super", base().all(0, PLAIN));
+        half("an interface", base().all(0, PLAIN, 0, 1));
+        half("the flags of a FIELD", base().all(0, PLAIN, 0, 0, 1));
+        half("the name of a FIELD", base().all(0, PLAIN, 0, 0, 1, 0));
+        half("the descriptor of a FIELD", base().all(0, PLAIN, 0, 0, 1, 0, NAME));
+        half("the flags of a METHOD", base().all(0, PLAIN, 0, 0, 0, 1));
+        half("the name of a METHOD", base().all(0, PLAIN, 0, 0, 0, 1, 0));
+        half("the descriptor of a METHOD", base().all(0, PLAIN, 0, 0, 0, 1, 0, NAME));
+    }
+
+    /** What stands before the u2 is sound; no u2 may be 65535 there, nor begin so. */
+    private static void half(String what, ClassFile before) {
+        int at = before.size();
+        before.faultAt(what + ", no BYTE", at);
+        before.u1(255).faultAt(what + ", one BYTE", at + 1);
+        before.u1(255).faultAt(what + ", both BYTES", at);
+        before.u2(0).faultAt(what + ", and more", at);
     }
 }

@@ -353,7 +353,6 @@ final class Model {
                 String d = entries.get(m.descriptor).text;
                 int tag = d.matches("[BCISZ]") ? 3 : d.equals("J") ? 5 : d.equals("F") ? 4 : d.equals("D") ? 6
                         : d.equals("Ljava/lang/String;") ? 8 : -1;
-                want(tag > 0, p);
                 m.value = take(false, tag);
             }
             case "Code" -> code(m);
